@@ -512,7 +512,9 @@ public final class TrialDesk {
         for (int i = 0; i < now.termCount; i++) {
             line[i] = 0;
             for (int s = 0; s < settings; s++) {
-                line[i] += Desk.markOf(now.terms[i], s) * now.seenSums[s];
+                if (now.seenSums[s] != 0) {
+                    line[i] += Desk.markOf(now.terms[i], s) * now.seenSums[s];
+                }
             }
         }
     }
@@ -810,12 +812,11 @@ public final class TrialDesk {
         void sweep() {
             lower = 1;
             rank = 0;
-            Arrays.fill(swept, false);
             for (int k = 0; k < size; k++) {
                 long pivot = cells[START[k] + k];
+                swept[k] = pivot > 0;
                 if (pivot > 0) {
                     sweepLine(k, pivot);
-                    swept[k] = true;
                     lower = pivot;
                     rank++;
                 }
@@ -1049,13 +1050,22 @@ public final class TrialDesk {
                 judge(row);
                 return;
             }
-            int from = Math.max(1, Integer.highestOneBit(leading) << 1);
+            int from = Math.max(1, greatestFactor(leading) << 1);
             for (int t = from; t < terms; t++) {
                 if ((t & leading) == 0) {
                     words[placed] = t;
-                    extend(placed + 1, row + multiply(placed, t), leading | Integer.highestOneBit(t));
+                    extend(placed + 1, row + multiply(placed, t), leading | greatestFactor(t));
                 }
             }
+        }
+
+        /** The TERM of the greatest FACTOR alone; 0 if there is none. */
+        private static int greatestFactor(int t) {
+            int found = 0;
+            for (int f = 0; f < MOST_FACTORS; f++) {
+                found = (t >> f & 1) == 0 ? found : 1 << f;
+            }
+            return found;
         }
 
         /** Puts the PRODUCTS with the new WORD behind the others; answers what ROW gains by them. */
@@ -1084,18 +1094,23 @@ public final class TrialDesk {
      * that is tried), as one code, and the place where the CHAIN stands.
      */
     private static final class ChainSearch {
+        // a place ahead of all, from which none is a CHANGE away
+        private static final int BEGIN = MOST_CHAINED;
+
         final int[] askedTimes;
         boolean asked;
         final int[] places;
         final int[] stock;
-        final int[] left;
         final int[] step;
-        final int[] open;
+        final int[] gaps;
         int placeCount;
-        int openCount;
         int codes;
         // made when it is asked for and no greater than is needed: most desks never ask for a CHAIN
         byte[] fewest;
+        final int[] left;
+        final int[] open;
+        final int[] ahead;
+        int openCount;
         final int[] chained;
         int changes;
 
@@ -1103,10 +1118,12 @@ public final class TrialDesk {
             askedTimes = new int[MOST_SETTINGS];
             places = new int[MOST_CHAINED];
             stock = new int[MOST_CHAINED];
-            left = new int[MOST_CHAINED];
             step = new int[MOST_CHAINED];
-            open = new int[MOST_CHAINED];
+            gaps = new int[(MOST_CHAINED + 1) * MOST_CHAINED];
             fewest = new byte[0];
+            left = new int[MOST_CHAINED];
+            open = new int[MOST_CHAINED];
+            ahead = new int[MOST_CHAINED];
             chained = new int[MOST_CHAINED];
         }
 
@@ -1117,6 +1134,7 @@ public final class TrialDesk {
             System.arraycopy(times, 0, askedTimes, 0, MOST_SETTINGS);
             asked = true;
             gatherPlaces();
+            measureGaps();
             makeRoom(codes * placeCount);
             weighStates();
             readChain();
@@ -1145,6 +1163,14 @@ public final class TrialDesk {
             }
         }
 
+        private void measureGaps() {
+            for (int at = 0; at < placeCount; at++) {
+                for (int to = 0; to < placeCount; to++) {
+                    gaps[at * MOST_CHAINED + to] = Integer.bitCount(places[at] ^ places[to]);
+                }
+            }
+        }
+
         private void makeRoom(int need) {
             if (need > fewest.length && need <= MOST_CHAIN_STATES) {
                 fewest = new byte[Math.min(MOST_CHAIN_STATES, Math.max(need, 2 * fewest.length))];
@@ -1155,22 +1181,25 @@ public final class TrialDesk {
         private void weighStates() {
             Arrays.fill(left, 0);
             for (int code = 0; code < codes; code++) {
-                listOpen();
+                listOpen(code);
                 for (int at = 0; at < placeCount; at++) {
                     int state = code * placeCount + at;
                     if (left[at] < stock[at] && state < fewest.length) {
-                        fewest[state] = (byte) (openCount == 0 ? 0 : changesBy(chooseOpen(code, at), code, at));
+                        fewest[state] = (byte) (openCount == 0 ? 0 : changesBy(at, firstLeast(at)));
                     }
                 }
                 countOn();
             }
         }
 
-        private void listOpen() {
+        /** Lists the places of which some is left, with the fewest CHANGES to come behind each. */
+        private void listOpen(int code) {
             openCount = 0;
             for (int p = 0; p < placeCount; p++) {
-                if (left[p] > 0) {
+                int state = (code - step[p]) * placeCount + p;
+                if (left[p] > 0 && state >= 0 && state < fewest.length) {
                     open[openCount] = p;
+                    ahead[openCount] = fewest[state];
                     openCount++;
                 }
             }
@@ -1187,38 +1216,34 @@ public final class TrialDesk {
             }
         }
 
-        /** The least place to go to with the fewest CHANGES to come (at NONE: to begin with). */
-        private int chooseOpen(int code, int at) {
+        private int changesBy(int at, int choice) {
+            return gaps[at * MOST_CHAINED + open[choice]] + ahead[choice];
+        }
+
+        /** Which of the open places is the first to go to with the fewest CHANGES. */
+        private int firstLeast(int at) {
+            int row = at * MOST_CHAINED;
             int found = 0;
             int least = Integer.MAX_VALUE;
             for (int o = 0; o < openCount; o++) {
-                int sum = changesBy(open[o], code, at);
+                int sum = gaps[row + open[o]] + ahead[o];
                 if (sum < least) {
                     least = sum;
-                    found = open[o];
+                    found = o;
                 }
             }
             return found;
-        }
-
-        private int changesBy(int to, int code, int at) {
-            int state = (code - step[to]) * placeCount + to;
-            if (state < 0 || state >= fewest.length) {
-                return 0;
-            }
-            int here = at == NONE ? 0 : Integer.bitCount(places[at] ^ places[to]);
-            return here + fewest[state];
         }
 
         private void readChain() {
             System.arraycopy(stock, 0, left, 0, MOST_CHAINED);
             changes = 0;
             int code = codes - 1;
-            int at = NONE;
+            int at = BEGIN;
             for (int i = 0; i < MOST_CHAINED && code > 0; i++) {
-                listOpen();
-                int to = chooseOpen(code, at);
-                changes += at == NONE ? 0 : Integer.bitCount(places[at] ^ places[to]);
+                listOpen(code);
+                int to = open[firstLeast(at)];
+                changes += gaps[at * MOST_CHAINED + to];
                 chained[i] = places[to];
                 left[to]--;
                 code -= step[to];

@@ -428,6 +428,15 @@ public final class PromisesTest {
         due("SETTING 0", x.about(100), 1);
         due("SETTING 1", x.about(101), 1);
         due("best(3): too many", x.best(3), false);
+        x = desk(2, 0, 1);
+        due("best(2)", x.best(2), true);
+        planIs("best(2)", x, 1, 1, 0, 0);
+        x.drop(0);
+        x.term(3);
+        x.drop(0);
+        x.term(1);
+        due("best(2) of the TERMS 3, 1", x.best(2), true);
+        planIs("best(2) of the TERMS 3, 1", x, 1, 0, 1, 0);
         x = desk(1, 0, 1);
         due("best(18)", x.best(18), true);
         due("best(19): there is none", x.best(19), false);
@@ -463,6 +472,10 @@ public final class PromisesTest {
         due("bests(2) of TERM 0", x.bests(2), 2080);
         due("bests(3)", x.bests(3), -1);
         due("bests(40)", x.bests(40), -1);
+        x = desk(2);
+        due("bests(2) of 4 SETTINGS", x.bests(2), 10);
+        x.factors(3);
+        due("bests(2) of 8 SETTINGS", x.bests(2), 36);
         x = desk(1);
         due("bests(9) of TERM 0", x.bests(9), 10);
         due("bests(10): none is tried 10 times", x.bests(10), 9);
