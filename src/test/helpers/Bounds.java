@@ -31,7 +31,7 @@ final class Bounds {
         long of(TrialDesk x);
     }
 
-    /** Begins the test of a sentence of the document. */
+    /** Begins the test of a sentence of the document; what stands in [ ] is no quotation. */
     static void says(String place, String words) {
         sentence = place + ", \"" + words + "\"";
         sentences++;

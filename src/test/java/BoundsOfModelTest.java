@@ -88,6 +88,11 @@ public final class BoundsOfModelTest {
                     x -> x.factors(count));
             }
         }
+        for (int k = 1; k <= 6; k++) {
+            int count = k;
+            Bounds.done("factors(" + k + ") of a MODEL without TERM 0", Bounds.model(3, 7, 5), x -> Bounds.bit(x.factors(count)), 1,
+                x -> x.factors(count));
+        }
         TrialDesk x = Bounds.made(Bounds.full(6));
         x.factors(2);
         Bounds.due("a TERM of 6 FACTORS is none of 2", x.term(63), NONE);
@@ -338,7 +343,7 @@ public final class BoundsOfModelTest {
     }
 
     private static void clearOfForty() {
-        Bounds.says("promise 6", "Nothing is tried. (of 40 trials)");
+        Bounds.says("promise 6", "Nothing is tried. [of 40 trials]");
         TrialDesk x = Bounds.made(Bounds.tried(d -> { }, 9, 9, 9, 9, 4));
         Bounds.due("plan(5, 1) with 40", x.plan(5, 1), false);
         x.clear();
@@ -485,6 +490,11 @@ public final class BoundsOfModelTest {
         x.plan(2, 0);
         x.plan(6, 0);
         Bounds.due("the least", x.table(0, 1), -18);
-        Bounds.due("the greatest", x.table(1, 2), 18);
+        Bounds.due("the greatest", x.table(0, 0), 18);
+        x = Bounds.made(Bounds.tried(Bounds.model(2, 3, 1), 9, 9));
+        Bounds.due("without TERM 0, both are 1 or -1", x.table(0, 1), -18);
+        x.plan(3, 9);
+        Bounds.due("without TERM 0, 3 by 1", x.table(1, 0), -9);
+        Bounds.due("without TERM 0, 3 by itself", x.table(0, 0), 27);
     }
 }

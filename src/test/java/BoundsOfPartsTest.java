@@ -262,7 +262,7 @@ public final class BoundsOfPartsTest {
     }
 
     private static void alikeOfNoneSuch() {
-        Bounds.says("promise 22", "NONE if there is none such (TERM)");
+        Bounds.says("promise 22", "NONE if there is none such [TERM]");
         for (int k = 1; k <= 6; k++) {
             int all = 1 << k;
             TrialDesk x = Bounds.made(Bounds.full(k));
@@ -411,7 +411,7 @@ public final class BoundsOfPartsTest {
     }
 
     private static void bestPartOfAllFactors() {
-        Bounds.says("promise 24", "K at most (all FACTORS)");
+        Bounds.says("promise 24", "K at most [all FACTORS]");
         for (int k = 1; k <= 4; k++) {
             TrialDesk x = new TrialDesk();
             x.factors(k);
@@ -452,10 +452,31 @@ public final class BoundsOfPartsTest {
         }
         x.clear();
         Bounds.due("behind clear()", x.chain(), 0);
+        twelveUnlike();
+    }
+
+    /** Twelve SETTINGS that are two FACTORS apart at least, asked for but once: the most that a CHAIN can need. */
+    private static void twelveUnlike() {
+        int[] settings = {0, 3, 5, 6, 9, 10, 12, 15, 17, 18, 20, 23};
+        TrialDesk x = new TrialDesk();
+        x.factors(6);
+        for (int s : settings) {
+            x.plan(s, 1);
+        }
+        Bounds.due("12 SETTINGS, two apart", x.chain(), 22);
+        int changes = 0;
+        for (int i = 1; i < 12; i++) {
+            changes += Integer.bitCount(x.chainOf(i - 1) ^ x.chainOf(i));
+        }
+        Bounds.due("the CHANGES of that CHAIN", changes, 22);
+        Bounds.due("its first SETTING", x.chainOf(0), 0);
+        Bounds.due("its second SETTING", x.chainOf(1), 3);
+        x.plan(63, 1);
+        Bounds.due("a 13th", x.chain(), NONE);
     }
 
     private static void chainOfFew() {
-        Bounds.says("promise 25", "The fewest CHANGES of a CHAIN (of none, of one, of two trials)");
+        Bounds.says("promise 25", "The fewest CHANGES of a CHAIN [of none, of one, of two trials]");
         for (int k = 1; k <= 6; k++) {
             int last = (1 << k) - 1;
             TrialDesk x = new TrialDesk();

@@ -43,7 +43,7 @@ public final class BoundsOfPlansTest {
     // ---- promise 10
 
     private static void worthOfTooFew() {
-        Bounds.says("promise 10", "The WORTH. (0 as long as the RANK is too small)");
+        Bounds.says("promise 10", "The WORTH. [0 as long as the RANK is too small]");
         for (int size = 1; size <= 5; size++) {
             TrialDesk x = Bounds.made(Bounds.model(3, java.util.Arrays.copyOf(new int[] {0, 1, 2, 4, 7}, size)));
             Bounds.due("worth() of nothing", x.worth(), 0);
@@ -65,7 +65,7 @@ public final class BoundsOfPlansTest {
     }
 
     private static void worthOfTheMost() {
-        Bounds.says("promise 10", "The WORTH. (of 40 trials)");
+        Bounds.says("promise 10", "The WORTH. [of 40 trials]");
         int[] terms = {0, 1, 2, 4, 7};
         long want = 1;
         for (int size = 1; size <= 5; size++) {
@@ -135,7 +135,7 @@ public final class BoundsOfPlansTest {
     }
 
     private static void knownOfNothing() {
-        Bounds.says("promise 11", "Whether a SUM .. is KNOWN by THE PLAN (nothing tried)");
+        Bounds.says("promise 11", "Whether a SUM .. is KNOWN by THE PLAN [nothing tried]");
         TrialDesk x = Bounds.made(Bounds.model(3, 0, 1, 2, 4, 7));
         Bounds.due("the SUM of 0", x.known(0, 0, 0, 0, 0), 1);
         Bounds.due("its upper SPREAD", x.spread(0, 0, 0, 0, 0, 0), 0);
@@ -291,7 +291,7 @@ public final class BoundsOfPlansTest {
     // ---- promise 14
 
     private static void neededOfNothing() {
-        Bounds.says("promise 14", "How many SETTINGS are tried of which one trial less lowers the RANK. (nothing tried)");
+        Bounds.says("promise 14", "How many SETTINGS are tried of which one trial less lowers the RANK. [nothing tried]");
         for (int k = 1; k <= 6; k++) {
             TrialDesk x = new TrialDesk();
             x.factors(k);
@@ -352,6 +352,10 @@ public final class BoundsOfPlansTest {
             Bounds.due("SETTING 0, the first of all with WORTH 0", x.about(100), 1);
             Bounds.due("SEEN stays", x.about(5), 1);
             Bounds.due("WORDS stay", x.alike(0), 2);
+            for (int n : new int[] {-1, 41, MAX, MIN}) {
+                Bounds.refused("best(" + n + ") behind best(1)", Bounds.and(Bounds.full(k), d -> Bounds.bit(d.best(1))),
+                    d -> Bounds.bit(d.best(n)));
+            }
             Bounds.isTakenBack("best(0)", Bounds.full(k), d -> Bounds.bit(d.best(0)));
             Bounds.isTakenBack("best(1)", Bounds.full(k), d -> Bounds.bit(d.best(1)));
         }
@@ -377,7 +381,7 @@ public final class BoundsOfPlansTest {
     }
 
     private static void bestOfNone() {
-        Bounds.says("promise 15", "false, and nothing is done, if n can't be (more than 9 trials of each SETTING)");
+        Bounds.says("promise 15", "false, and nothing is done, if n can't be [more than 9 trials of each SETTING]");
         for (int k = 1; k <= 2; k++) {
             int most = MOST_TOLD[k];
             for (int n : new int[] {most + 1, most + 2, 39, 40}) {
@@ -416,12 +420,21 @@ public final class BoundsOfPlansTest {
         Bounds.planIs("best(19) of the TERMS 0, 2", x, 9, 1, 9, 0);
         x.best(20);
         Bounds.planIs("best(20) of the TERMS 0, 2", x, 9, 1, 9, 1);
+        // as many TERMS and trials as ahead, but others
+        x.drop(1);
+        x.term(1);
+        x.best(20);
+        Bounds.planIs("best(20) of the TERMS 0, 1", x, 9, 9, 1, 1);
+        x.term(3);
+        x.drop(0);
+        x.best(20);
+        Bounds.planIs("best(20) of the TERMS 1, 3", x, 9, 1, 9, 1);
     }
 
     // ---- promise 16
 
     private static void bestsThatCannotBe() {
-        Bounds.says("promise 16", "NONE likewise (n can't be)");
+        Bounds.says("promise 16", "NONE likewise [n can't be]");
         for (int k = 1; k <= 6; k++) {
             TrialDesk x = Bounds.made(Bounds.full(k));
             for (int n : new int[] {-1, 41, -2, 42, MAX, MIN}) {
@@ -550,6 +563,12 @@ public final class BoundsOfPlansTest {
         Bounds.due("swap()", x.swap(), true);
         Bounds.planIs("1 is left for 3", x, 1, 1, 1, 1);
         Bounds.due("swap()", x.swap(), false);
+        // without TERM 0: 0 and 3 are of one kind for the TERMS 1, 2, and so are 1 and 2
+        x = Bounds.made(Bounds.tried(Bounds.model(2, 1, 2), 0, 2, 0, 2));
+        Bounds.due("swap() of two and two", x.swap(), false);
+        x.plan(3, 4);
+        Bounds.due("swap() of two and four", x.swap(), true);
+        Bounds.planIs("3 is left for 1", x, 0, 3, 0, 3);
     }
 
     // ---- promise 18

@@ -46,7 +46,7 @@ public final class BoundsOfSeenTest {
     }
 
     private static void seeReadings() {
-        Bounds.says("promise 27", "with a reading (-1000 .. 1000) .. NONE, and it is not, if that can't be");
+        Bounds.says("promise 27", "with a reading [-1000 .. 1000] .. NONE, and it is not, if that can't be");
         for (int reading : new int[] {-1001, 1001, -1002, 1002, MAX, MIN}) {
             Bounds.refused("see(0, " + reading + ") of nothing", x -> { }, x -> x.see(0, reading), NONE);
             Bounds.refused("see(7, " + reading + ")", Bounds.full(3), x -> x.see(7, reading), NONE);
@@ -126,7 +126,7 @@ public final class BoundsOfSeenTest {
     }
 
     private static void forgetSixty() {
-        Bounds.says("promise 28", "Nothing was SEEN. (of 60)");
+        Bounds.says("promise 28", "Nothing was SEEN. [of 60]");
         TrialDesk x = Bounds.made(seen(60));
         Bounds.due("see() number 61", x.see(0, 1), NONE);
         x.forget();
@@ -205,7 +205,7 @@ public final class BoundsOfSeenTest {
     }
 
     private static void weightFractions() {
-        Bounds.says("Terms 1", "a lower one (1), 1 or more, without a divisor in common (WEIGHTS)");
+        Bounds.says("Terms 1", "a lower one (1), 1 or more, without a divisor in common [WEIGHTS]");
         for (int reading : new int[] {-1000, -7, 0, 1, 12, 1000}) {
             TrialDesk x = new TrialDesk();
             long total = 0;
@@ -223,7 +223,7 @@ public final class BoundsOfSeenTest {
     }
 
     private static void weightOnItsBounds() {
-        Bounds.says("promise 29", "The WEIGHT of a SUM (60 readings of -1000, 1000)");
+        Bounds.says("promise 29", "The WEIGHT of a SUM [60 readings of -1000, 1000]");
         int[] terms = {0, 1, 2, 3};
         for (int at = 0; at < 4; at++) {
             TrialDesk x = Bounds.made(Bounds.model(2, terms));
@@ -301,7 +301,7 @@ public final class BoundsOfSeenTest {
     }
 
     private static void missFractions() {
-        Bounds.says("Terms 1", "a lower one (1), 1 or more, without a divisor in common (MISS)");
+        Bounds.says("Terms 1", "a lower one (1), 1 or more, without a divisor in common [MISS]");
         TrialDesk x = new TrialDesk();
         long total = 0;
         long squares = 0;
@@ -318,7 +318,7 @@ public final class BoundsOfSeenTest {
     }
 
     private static void missOnItsBounds() {
-        Bounds.says("promise 30", "The MISS (60 readings of -1000, 1000)");
+        Bounds.says("promise 30", "The MISS [60 readings of -1000, 1000]");
         int[] terms = {0, 1, 2, 4, 7};
         for (int size = 1; size <= 5; size++) {
             TrialDesk x = Bounds.made(Bounds.model(3, java.util.Arrays.copyOf(terms, size)));

@@ -220,7 +220,7 @@ public final class BoundsOfUndoTest {
     }
 
     private static void eachNamedCallWithoutAChange() {
-        Bounds.says("promise 31", "All is as ahead of the latest call of .. that was done (without a change)");
+        Bounds.says("promise 31", "All is as ahead of the latest call of .. that was done [without a change]");
         Bounds.isTakenBack("factors(3) of a new object", x -> { }, x -> Bounds.bit(x.factors(3)));
         Bounds.isTakenBack("plan(), the same again", desk(), x -> Bounds.bit(x.plan(0, 3)));
         Bounds.isTakenBack("plan() of none", desk(), x -> Bounds.bit(x.plan(7, 0)));
@@ -235,7 +235,7 @@ public final class BoundsOfUndoTest {
     }
 
     private static void eachCallThatWasNotDone() {
-        Bounds.says("promise 31", "that was done (not: a call that was refused)");
+        Bounds.says("promise 31", "that was done [not: a call that was refused]");
         Bounds.Steps nine = Bounds.then(desk(), calls(2));
         for (Bounds.Steps ahead : List.of(desk(), nine)) {
             Bounds.refused("factors(7)", ahead, x -> Bounds.bit(x.factors(7)));
@@ -252,7 +252,7 @@ public final class BoundsOfUndoTest {
     }
 
     private static void callsThatAreNotNamed() {
-        Bounds.says("promise 31", "the latest call of .. (not: one that only asks)");
+        Bounds.says("promise 31", "the latest call of .. [not: one that only asks]");
         List<Bounds.Call> asking = List.of(x -> x.about(4), x -> x.mark(1, 1), x -> x.table(1, 1), x -> x.worth(),
             x -> x.known(1, 1, 1, 1, 1), x -> x.spread(1, 1, 1, 1, 1, 0), x -> x.widest(2), x -> x.needed(), x -> x.bests(3),
             x -> x.next(), x -> x.alike(3), x -> x.alikeOf(3, 1), x -> x.length(0), x -> x.chain(), x -> x.chainOf(2),
