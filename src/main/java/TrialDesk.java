@@ -1023,6 +1023,7 @@ public final class TrialDesk {
      */
     private static final class PartSearch {
         private static final int ROW_DIGIT = 4;
+        private static final int BEYOND_ROWS = 1 << ROW_DIGIT * MOST_FACTORS;
 
         final int[] words;
         final int[] products;
@@ -1040,7 +1041,7 @@ public final class TrialDesk {
         void find(int termCount, int wordCount) {
             terms = termCount;
             count = wordCount;
-            leastRow = Integer.MAX_VALUE;
+            leastRow = BEYOND_ROWS;
             products[0] = 0;
             extend(0, 0, 0);
         }
@@ -1096,6 +1097,7 @@ public final class TrialDesk {
     private static final class ChainSearch {
         // a place ahead of all, from which none is a CHANGE away
         private static final int BEGIN = MOST_CHAINED;
+        private static final int BEYOND_CHANGES = MOST_CHAINED * MOST_FACTORS;
 
         final int[] askedTimes;
         boolean asked;
@@ -1224,7 +1226,7 @@ public final class TrialDesk {
         private int firstLeast(int at) {
             int row = at * MOST_CHAINED;
             int found = 0;
-            int least = Integer.MAX_VALUE;
+            int least = BEYOND_CHANGES;
             for (int o = 0; o < openCount; o++) {
                 int sum = gaps[row + open[o]] + ahead[o];
                 if (sum < least) {

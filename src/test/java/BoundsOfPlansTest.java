@@ -1,3 +1,6 @@
+import java.math.BigInteger;
+import java.util.Arrays;
+
 /** The bounds of the promises 10 to 18: on each bound, next to it on either side, and the calls behind it. */
 public final class BoundsOfPlansTest {
     private static final int MAX = Bounds.MAX;
@@ -29,6 +32,7 @@ public final class BoundsOfPlansTest {
         bestFirstOfSeveral();
         bestsThatCannotBe();
         bestsOfTooMany();
+        numbersOfPlansNextToTheLimit();
         nineTimesHereToo();
         swapThatDoesNotRaise();
         swapOfWhatIsTried();
@@ -471,6 +475,54 @@ public final class BoundsOfPlansTest {
         Bounds.due("bests(4) at K 4", x.bests(4), 3876);
         x.factors(5);
         Bounds.due("bests(2) at K 5", x.bests(2), 528);
+    }
+
+    private static void numbersOfPlansNextToTheLimit() {
+        Bounds.says("Terms 2", "There are at most 20000 of them [the nearest numbers of PLANS that some K and n have]");
+        long nearestBelow = 0;
+        long nearestBeyond = Long.MAX_VALUE;
+        for (int k = 1; k <= 6; k++) {
+            BigInteger[] plans = numbersOfPlans(k);
+            TrialDesk x = new TrialDesk();
+            x.factors(k);
+            for (int n = 0; n <= 40; n++) {
+                boolean isTold = plans[n].compareTo(BigInteger.valueOf(20000)) <= 0;
+                // of TERM 0 alone all PLANS of n trials have the WORTH n
+                Bounds.due("bests(" + n + ") at K " + k, x.bests(n), isTold ? plans[n].intValueExact() : NONE);
+                Bounds.due("best(" + n + ") at K " + k, x.best(n), isTold && plans[n].signum() > 0);
+                if (isTold) {
+                    nearestBelow = Math.max(nearestBelow, plans[n].longValueExact());
+                } else if (plans[n].bitLength() < 63) {
+                    nearestBeyond = Math.min(nearestBeyond, plans[n].longValueExact());
+                }
+            }
+        }
+        Bounds.due("the greatest number that is told", nearestBelow, 19440);
+        Bounds.due("the least number that is not", nearestBeyond, 31760);
+        TrialDesk x = new TrialDesk();
+        Bounds.due("19440 PLANS", x.bests(10), 19440);
+        Bounds.due("31760 PLANS", x.bests(11), NONE);
+        Bounds.due("best of 19440 PLANS", x.best(10), true);
+        Bounds.planIs("best(10)", x, 9, 1, 0, 0, 0, 0, 0, 0);
+        Bounds.refused("best of 31760 PLANS", d -> d.best(10), d -> Bounds.bit(d.best(11)));
+    }
+
+    /** For 0 .. 40 trials how many PLANS there are: one SETTING behind the other, 0 .. 9 trials each. */
+    private static BigInteger[] numbersOfPlans(int k) {
+        BigInteger[] plans = new BigInteger[41];
+        Arrays.fill(plans, BigInteger.ZERO);
+        plans[0] = BigInteger.ONE;
+        for (int s = 0; s < 1 << k; s++) {
+            BigInteger[] more = new BigInteger[41];
+            for (int n = 0; n <= 40; n++) {
+                more[n] = BigInteger.ZERO;
+                for (int here = 0; here <= Math.min(9, n); here++) {
+                    more[n] = more[n].add(plans[n - here]);
+                }
+            }
+            plans = more;
+        }
+        return plans;
     }
 
     private static void nineTimesHereToo() {

@@ -123,6 +123,13 @@ public final class FaceTest {
             Matcher m = Pattern.compile(banned).matcher(code);
             isTrue("not in the language: " + banned, !m.find());
         }
+        // rule 4 lists the functions of these, not their constants
+        Matcher library = Pattern.compile("\\b(Integer|Long|Math|Short|Byte|Character|Boolean|Double|Float)\\.\\w+(.)")
+            .matcher(code);
+        while (library.find()) {
+            boolean isFunction = library.group(1).matches("Integer|Long|Math") && library.group(2).equals("(");
+            isTrue("not in the library: " + library.group(), isFunction);
+        }
         Matcher imports = Pattern.compile("import ([^;]*);").matcher(code);
         while (imports.find()) {
             isTrue("import " + imports.group(1), imports.group(1).equals("java.util.Arrays"));
